@@ -269,10 +269,8 @@ public final class GroupTowers {
         if (action == null || what < 0 || what > 6) {
             return BAD;
         }
-        if (!isSolved(action)) {
-            return STATE;
-        }
-        return action.twists.dimensionOf(what);
+        solve(action);
+        return action.solved ? action.twists.dimensionOf(what) : STATE;
     }
 
     public int twist(int m, int c, int x, int y, int i) {
@@ -280,6 +278,7 @@ public final class GroupTowers {
         if (action == null || !action.group.has(x) || !action.group.has(y) || i < 0 || i >= action.rank) {
             return BAD;
         }
+        solve(action);
         int refusal = refusalOf(action, c);
         return refusal != 0 ? refusal : action.twists.numberOf(action, c, x, y, i);
     }
@@ -289,6 +288,7 @@ public final class GroupTowers {
         if (action == null) {
             return BAD;
         }
+        solve(action);
         int refusal = refusalOf(action, c);
         if (refusal != 0) {
             return refusal;
@@ -310,7 +310,8 @@ public final class GroupTowers {
         if (action == null || sheet == null || !isLane(lane)) {
             return BAD;
         }
-        if (!isSolved(action)) {
+        solve(action);
+        if (!action.solved) {
             return STATE;
         }
         int fault = sheet.faultOfReading(lane, action.rank * action.group.size * action.group.size);
@@ -325,6 +326,7 @@ public final class GroupTowers {
         if (action == null) {
             return BAD;
         }
+        solve(action);
         int refusal = refusalOf(action, c);
         if (refusal != 0) {
             return refusal;
@@ -337,6 +339,7 @@ public final class GroupTowers {
         if (action == null) {
             return BAD;
         }
+        solve(action);
         int refusal = refusalOf(action, c);
         if (refusal == 0) {
             refusal = refusalOf(action, d);
@@ -349,6 +352,7 @@ public final class GroupTowers {
         if (action == null || s < 1 || s >= action.prime) {
             return BAD;
         }
+        solve(action);
         int refusal = refusalOf(action, c);
         if (refusal != 0) {
             return refusal;
@@ -410,22 +414,27 @@ public final class GroupTowers {
     }
 
     /** Only a sound module has dimensions and classes; they are found once, until it acts otherwise. */
-    private boolean isSolved(Action action) {
-        if (!action.solved && action.firstUnsound() == 0) {
-            if (equations == null) {
-                equations = new Echelon(MOST_PLACES);
-            }
-            action.twists.solve(action, equations);
-            action.solved = true;
+    private void solve(Action action) {
+        if (action.solved || action.firstUnsound() != 0) {
+            return;
         }
-        return action.solved;
+        if (equations == null) {
+            equations = new Echelon(MOST_PLACES);
+        }
+        Twists twists = action.twists;
+        twists.findUnmoved(action, equations);
+        twists.findBounds(action);
+        twists.writeEquations(action, equations);
+        twists.findStandards(action, equations);
+        action.solved = true;
     }
 
-    private int refusalOf(Action action, int c) {
+    /** What a class is refused with, or 0; the module has been solved, if it can be. */
+    private static int refusalOf(Action action, int c) {
         if (c < 0) {
             return BAD;
         }
-        if (!isSolved(action)) {
+        if (!action.solved) {
             return STATE;
         }
         return c < action.twists.classCount ? 0 : BAD;
@@ -433,6 +442,10 @@ public final class GroupTowers {
 
     private static int mod(int a, int n) {
         return n > 0 ? Math.floorMod(a, n) : 0;
+    }
+
+    private static int quotient(int a, int n) {
+        return n > 0 ? a / n : 0;
     }
 
     private static int power(int base, int exponent) {
@@ -445,13 +458,10 @@ public final class GroupTowers {
 
     /** Adds two numbers digit by digit, without carrying. */
     private static int addDigits(int a, int b, int base, int digits) {
-        if (base < 1) {
-            return 0;
-        }
         int result = 0;
         int unit = 1;
         for (int i = 0; i < digits; i++) {
-            result += unit * mod(a / unit + b / unit, base);
+            result += unit * mod(quotient(a, unit) + quotient(b, unit), base);
             unit *= base;
         }
         return result;
@@ -957,7 +967,7 @@ public final class GroupTowers {
             for (int i = 0; i < rank; i++) {
                 int total = entry(x, i, 0) * mod(v, prime);
                 if (rank > 1) {
-                    total += entry(x, i, 1) * (v / prime);
+                    total += entry(x, i, 1) * quotient(v, prime);
                 }
                 result += unit * mod(total, prime);
                 unit *= prime;
@@ -1014,12 +1024,12 @@ public final class GroupTowers {
             return number(rowLeading[lead], place);
         }
 
-        /** Takes from a row so much of these that it is 0 wherever one of them leads. */
+        /** Takes from a row of numbers 0 to P - 1 so much of these that it is 0 wherever one of them leads. */
         void reduce(int[] row) {
             for (int lead = 0; lead < width; lead++) {
-                int from = rowLeading[lead] * MOST_PLACES;
-                int share = prime - row[lead];
-                if (from >= 0 && row[lead] != 0) {
+                if (row[lead] != 0 && leadsAt(lead)) {
+                    int from = rowLeading[lead] * MOST_PLACES;
+                    int share = prime - row[lead];
                     for (int place = lead; place < width; place++) {
                         int other = numbers[from + place];
                         if (other != 0) {
@@ -1030,8 +1040,11 @@ public final class GroupTowers {
             }
         }
 
-        /** Keeps what is left of a row, if anything is. */
+        /** Keeps what is left of a row of any numbers, if anything is. */
         void add(int[] row) {
+            for (int place = 0; place < width; place++) {
+                row[place] = mod(row[place], prime);
+            }
             reduce(row);
             int lead = firstNotZero(row);
             if (lead < 0 || count >= leads.length) {
@@ -1075,14 +1088,6 @@ public final class GroupTowers {
         private int singles;
         int classCount;
 
-        void solve(Action action, Echelon equations) {
-            findUnmoved(action, equations);
-            findBounds(action);
-            writeEquations(action, equations);
-            findStandards(action, equations);
-            classCount = power(action.prime, standards.count);
-        }
-
         /** Of linear maps what goes to 0 and what comes out have the dimensions of all together. */
         int dimensionOf(int what) {
             switch (what) {
@@ -1096,12 +1101,12 @@ public final class GroupTowers {
             }
         }
 
-        private void findUnmoved(Action action, Echelon equations) {
+        void findUnmoved(Action action, Echelon equations) {
             equations.begin(action.rank, action.prime);
             for (int x = 0; x < action.group.size; x++) {
                 for (int i = 0; i < action.rank; i++) {
                     for (int j = 0; j < action.rank; j++) {
-                        row[j] = mod(action.entry(x, i, j) - (i == j ? 1 : 0), action.prime);
+                        row[j] = action.entry(x, i, j) - (i == j ? 1 : 0);
                     }
                     equations.add(row);
                 }
@@ -1110,7 +1115,7 @@ public final class GroupTowers {
             unmoved = action.rank - bound;
         }
 
-        private void findBounds(Action action) {
+        void findBounds(Action action) {
             singles = (action.group.size - 1) * action.rank;
             bounds.begin(action.places(), action.prime);
             for (int u = 1; u < action.group.size; u++) {
@@ -1128,20 +1133,16 @@ public final class GroupTowers {
                 for (int y = 1; y < action.group.size; y++) {
                     int at = action.place(x, y, j);
                     if (x == u) {
-                        raise(at, 1, action.prime);
+                        row[at]++;
                     }
                     if (action.group.mul(x, y) == u) {
-                        raise(at, -1, action.prime);
+                        row[at]--;
                     }
                     for (int i = 0; i < action.rank && y == u; i++) {
-                        raise(action.place(x, y, i), action.entry(x, i, j), action.prime);
+                        row[action.place(x, y, i)] += action.entry(x, i, j);
                     }
                 }
             }
-        }
-
-        private void raise(int at, int by, int prime) {
-            row[at] = mod(row[at] + by, prime);
         }
 
         /**
@@ -1149,7 +1150,7 @@ public final class GroupTowers {
          * of some x', with all y and z, then it holds of x x': so the makers are enough.
          * Places run backwards here, so that of what is found each first number is free, not the last one.
          */
-        private void writeEquations(Action action, Echelon equations) {
+        void writeEquations(Action action, Echelon equations) {
             int last = action.places() - 1;
             equations.begin(last + 1, action.prime);
             for (int b = 0; b < bounds.count; b++) {
@@ -1176,18 +1177,18 @@ public final class GroupTowers {
             int yz = action.group.mul(y, z);
             Arrays.fill(row, 0);
             for (int j = 0; j < action.rank; j++) {
-                raise(last - action.place(y, z, j), action.entry(x, i, j), action.prime);
+                row[last - action.place(y, z, j)] += action.entry(x, i, j);
             }
             if (yz != 0) {
-                raise(last - action.place(x, yz, i), 1, action.prime);
+                row[last - action.place(x, yz, i)]++;
             }
             if (xy != 0) {
-                raise(last - action.place(xy, z, i), -1, action.prime);
+                row[last - action.place(xy, z, i)]--;
             }
-            raise(last - action.place(x, y, i), -1, action.prime);
+            row[last - action.place(x, y, i)]--;
         }
 
-        private void findStandards(Action action, Echelon equations) {
+        void findStandards(Action action, Echelon equations) {
             int width = action.places();
             standards.begin(width, action.prime);
             for (int free = 0; free < width; free++) {
@@ -1196,6 +1197,7 @@ public final class GroupTowers {
                     standards.add(row);
                 }
             }
+            classCount = power(action.prime, standards.count);
         }
 
         /** The standard with 1 at one free place and 0 at the others; each equation gives the number at its lead. */
@@ -1215,7 +1217,7 @@ public final class GroupTowers {
         }
 
         int numberOf(Action action, int c, int x, int y, int i) {
-            if (x == 0 || y == 0 || action.prime < 1) {
+            if (x == 0 || y == 0) {
                 return 0;
             }
             int at = action.place(x, y, i);
@@ -1223,7 +1225,7 @@ public final class GroupTowers {
             int digits = c;
             for (int k = 0; k < standards.count; k++) {
                 total += mod(digits, action.prime) * standards.number(k, at);
-                digits /= action.prime;
+                digits = quotient(digits, action.prime);
             }
             return mod(total, action.prime);
         }

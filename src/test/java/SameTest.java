@@ -1,0 +1,108 @@
+/** Promise 15. */
+public final class SameTest {
+    private SameTest() {
+    }
+
+    public static void main(String[] args) {
+        wrongInputs();
+        withoutTry();
+        triesAreCounted();
+        unlikeAfterAllTries();
+        renamed();
+        spentOnManyMakers();
+        Check.end();
+    }
+
+    private static void wrongInputs() {
+        GroupTowers t = new GroupTowers();
+        t.cyclic(3);
+        Check.due("no first", t.same(-1, 0, 5), GroupTowers.BAD);
+        Check.due("no second", t.same(0, 1, 5), GroupTowers.BAD);
+        Check.due("tries below", t.same(0, 0, -1), GroupTowers.BAD);
+        Check.due("tries above", t.same(0, 0, 20001), GroupTowers.BAD);
+        Check.due("the most tries", t.same(0, 0, 20000), 1);
+        Check.due("one try", t.same(0, 0, 1), 1);
+        Check.due("no try", t.same(0, 0, 0), GroupTowers.SPENT);
+    }
+
+    private static void withoutTry() {
+        GroupTowers t = new GroupTowers();
+        t.cyclic(8);
+        t.quaternions();
+        t.dihedral(4);
+        t.cyclic(7);
+        Check.due("unlike by order", t.same(0, 3, 0), 0);
+        Check.due("unlike by orders of elements", t.same(1, 2, 0), 0);
+        Check.due("the other way round", t.same(2, 1, 0), 0);
+        t.cyclic(1);
+        Check.due("of one element, no try", t.same(4, 4, 0), GroupTowers.SPENT);
+        Check.due("of one element, one try", t.same(4, 4, 1), 1);
+    }
+
+    /** 2 with 2 is made by 1 and 2: of rows of 1, 2, 3 the second one, 1 2, is the first that fits. */
+    private static void triesAreCounted() {
+        GroupTowers t = new GroupTowers();
+        t.cyclic(2);
+        t.pair(0, 0);
+        Check.due("1 1 does not fit", t.same(1, 1, 1), GroupTowers.SPENT);
+        Check.due("1 2 does", t.same(1, 1, 2), 1);
+        t.dihedral(4);
+        // Made by 1 and 4, of orders 4 and 2. Of 2, 4, 5, 6, 7 the first goes with 1 as a power of it.
+        Check.due("1 2 does not fit", t.same(2, 2, 1), GroupTowers.SPENT);
+        Check.due("1 4 does", t.same(2, 2, 2), 1);
+        t.quaternions();
+        // Made by 1 and 2, both of order 4: 1 1 is the first row.
+        Check.due("1 1 of quaternions", t.same(3, 3, 1), GroupTowers.SPENT);
+        Check.due("1 2 of quaternions", t.same(3, 3, 2), 1);
+        t.cyclic(6);
+        t.cyclic(3);
+        t.pair(0, 5);
+        // 2 with 3 is made by one: 4, the first of order 6. The first of that order in 6 is 1.
+        Check.due("6 and 2 with 3", t.same(6, 4, 1), 1);
+        Check.due("2 with 3 and 6", t.same(4, 6, 1), 1);
+    }
+
+    /** 4 with 4 and 2 with quaternions have 3 elements of order 2 and 12 of order 4. */
+    private static void unlikeAfterAllTries() {
+        GroupTowers t = new GroupTowers();
+        t.cyclic(4);
+        t.pair(0, 0);
+        t.cyclic(2);
+        t.quaternions();
+        t.pair(2, 3);
+        Check.due("144 tries, and all there are", t.same(1, 4, 144), 0);
+        Check.due("one try short", t.same(1, 4, 143), GroupTowers.SPENT);
+        Check.due("more tries than there are", t.same(1, 4, 20000), 0);
+        Check.due("from the other side", t.same(4, 1, 20000), 0);
+        Check.due("no try", t.same(4, 1, 0), GroupTowers.SPENT);
+    }
+
+    private static void renamed() {
+        GroupTowers t = new GroupTowers();
+        t.dihedral(6);
+        t.dihedral(3);
+        t.cyclic(2);
+        t.pair(1, 2);
+        t.pair(2, 1);
+        Check.due("dihedral 6 and dihedral 3 with 2", t.same(0, 3, 500), 1);
+        Check.due("2 with dihedral 3", t.same(4, 0, 500), 1);
+        t.dihedral(2);
+        t.pair(2, 2);
+        Check.due("dihedral 2 and 2 with 2", t.same(5, 6, 9), 1);
+        t.dihedral(1);
+        Check.due("dihedral 1 and 2", t.same(7, 2, 1), 1);
+    }
+
+    /** The first row that fits is that of the makers, 1 2 4 8 (16); 1 1 .. to 1 2 4 7 .. stand ahead of it. */
+    private static void spentOnManyMakers() {
+        GroupTowers t = new GroupTowers();
+        t.cyclic(2);
+        for (int g = 1; g < 5; g++) {
+            t.pair(g - 1, 0);
+        }
+        int rows = 15 * 15 + 3 * 15 + 8;
+        Check.due("4 makers, a try short", t.same(3, 3, rows - 1), GroupTowers.SPENT);
+        Check.due("4 makers", t.same(3, 3, rows), 1);
+        Check.due("5 makers need 32907 tries", t.same(4, 4, 20000), GroupTowers.SPENT);
+    }
+}
