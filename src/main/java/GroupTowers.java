@@ -231,7 +231,7 @@ public final class GroupTowers {
         if (group == null || group.size > MOST_ACTING_ORDER) {
             return BAD;
         }
-        if (p != 2 && p != 3 && p != 5 || r < 1 || r > MOST_RANK) {
+        if ((p != 2 && p != 3 && p != 5) || r < 1 || r > MOST_RANK) {
             return BAD;
         }
         if (actionCount >= MOST_MODULES) {
@@ -532,7 +532,7 @@ public final class GroupTowers {
                 for (int y = 0; y < size; y++) {
                     // What stands behind a flip turns the other way round.
                     int turn = x < n ? x + y : x - y;
-                    boolean flipped = x < n != y < n;
+                    boolean flipped = (x < n) != (y < n);
                     set(x, y, mod(turn, n) + (flipped ? n : 0));
                 }
             }
@@ -542,7 +542,7 @@ public final class GroupTowers {
             size = 8;
             for (int x = 0; x < size; x++) {
                 for (int y = 0; y < size; y++) {
-                    set(x, y, UNITS[(x & 3) * 4 + (y & 3)] ^ (x ^ y) & 4);
+                    set(x, y, UNITS[(x & 3) * 4 + (y & 3)] ^ ((x ^ y) & 4));
                 }
             }
         }
@@ -584,7 +584,7 @@ public final class GroupTowers {
             for (int x = 0; x < n; x++) {
                 for (int y = 0; y < n; y++) {
                     int z = sheet.cells[n * x + y];
-                    if (!has(z) || x == 0 && z != y || y == 0 && z != x) {
+                    if (!has(z) || (x == 0 && z != y) || (y == 0 && z != x)) {
                         return n * x + y;
                     }
                     set(x, y, z);

@@ -224,6 +224,13 @@ public final class ClassesTest {
         t.sheet(1, 0, 9);
         t.lay(1, 4, 1);
         Check.due("no cocycle", t.classOf(2, 1, 0), GroupTowers.NONE);
+        // By opposites f(1, 1) is its own opposite: 0.
+        t.module(0, 3, 1);
+        t.acts(3, 1, 2, 0, 0, 0);
+        t.sheet(2, 0, 4);
+        Check.due("0 by opposites", t.classOf(3, 2, 0), 0);
+        t.lay(2, 3, 1);
+        Check.due("no cocycle by opposites", t.classOf(3, 2, 0), GroupTowers.NONE);
     }
 
     private static void classOfRefused() {

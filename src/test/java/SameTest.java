@@ -8,6 +8,8 @@ public final class SameTest {
         withoutTry();
         triesAreCounted();
         unlikeAfterAllTries();
+        unlikeByProductsAlone();
+        leastMakers();
         renamed();
         spentOnManyMakers();
         Check.end();
@@ -77,6 +79,41 @@ public final class SameTest {
         Check.due("no try", t.same(4, 1, 0), GroupTowers.SPENT);
     }
 
+    /** 3 with 3 with 3 and the one over 3 by shears: all of order 3 but 0, so that only products tell them apart. */
+    private static void unlikeByProductsAlone() {
+        GroupTowers t = new GroupTowers();
+        t.cyclic(3);
+        t.pair(0, 0);
+        t.pair(1, 0);
+        t.module(0, 3, 2);
+        t.acts(0, 1, 1, 1, 0, 1);
+        t.acts(0, 2, 1, 2, 0, 1);
+        Check.due("over", t.over(0, 0), 3);
+        Check.due("all of order 3", t.about(3, 2), 3);
+        Check.due("3 makers: 26 26 26 rows", t.same(2, 3, 17576), 0);
+        Check.due("a try short", t.same(2, 3, 17575), GroupTowers.SPENT);
+        Check.due("2 makers: 26 26 rows", t.same(3, 2, 676), 0);
+        Check.due("a try short", t.same(3, 2, 675), GroupTowers.SPENT);
+        Check.due("itself", t.same(3, 3, 676), 1);
+        Check.due("itself, the first row", t.same(3, 3, 1), GroupTowers.SPENT);
+    }
+
+    /** The least row of makers counts: of dihedral 3 with its first flip called 1 that is 1 2, of orders 2 and 3. */
+    private static void leastMakers() {
+        GroupTowers t = new GroupTowers();
+        t.dihedral(3);
+        int[] name = {0, 2, 4, 1, 3, 5};
+        t.sheet(0, 0, 36);
+        for (int x = 0; x < 6; x++) {
+            for (int y = 0; y < 6; y++) {
+                t.lay(0, 6 * name[x] + name[y], name[t.product(0, x, y)]);
+            }
+        }
+        Check.due("renamed", t.table(0, 0, 6), 1);
+        Check.due("a flip and a turn: the first row", t.same(1, 0, 1), 1);
+        Check.due("a turn and a flip: the first row", t.same(0, 1, 1), 1);
+    }
+
     private static void renamed() {
         GroupTowers t = new GroupTowers();
         t.dihedral(6);
@@ -91,6 +128,14 @@ public final class SameTest {
         Check.due("dihedral 2 and 2 with 2", t.same(5, 6, 9), 1);
         t.dihedral(1);
         Check.due("dihedral 1 and 2", t.same(7, 2, 1), 1);
+        GroupTowers great = new GroupTowers();
+        great.cyclic(48);
+        great.cyclic(16);
+        great.cyclic(3);
+        great.pair(1, 2);
+        great.dihedral(24);
+        Check.due("48 and 16 with 3", great.same(0, 3, 1), 1);
+        Check.due("48 and dihedral 24", great.same(0, 4, 0), 0);
     }
 
     /** The first row that fits is that of the makers, 1 2 4 8 (16); 1 1 .. to 1 2 4 7 .. stand ahead of it. */
