@@ -5,7 +5,9 @@ public final class SameTest {
 
     public static void main(String[] args) {
         wrongInputs();
+        triesFrom0To20000();
         withoutTry();
+        unlikeIsAheadOfSpent();
         triesAreCounted();
         unlikeAfterAllTries();
         unlikeByProductsAlone();
@@ -25,6 +27,40 @@ public final class SameTest {
         Check.due("the most tries", t.same(0, 0, 20000), 1);
         Check.due("one try", t.same(0, 0, 1), 1);
         Check.due("no try", t.same(0, 0, 0), GroupTowers.SPENT);
+    }
+
+    /** "n tries (0 to 20000)". */
+    private static void triesFrom0To20000() {
+        GroupTowers t = new GroupTowers();
+        t.cyclic(2);
+        t.cyclic(3);
+        for (int n : new int[] {Integer.MIN_VALUE, -20000, -1, 20001, 20002, Integer.MAX_VALUE}) {
+            Check.due("alike, " + n + " tries", t.same(0, 0, n), GroupTowers.BAD);
+            Check.due("unlike, " + n + " tries", t.same(0, 1, n), GroupTowers.BAD);
+            Check.due("no first, " + n + " tries", t.same(2, 1, n), GroupTowers.BAD);
+        }
+        Check.due("alike, 0 tries", t.same(0, 0, 0), GroupTowers.SPENT);
+        Check.due("alike, 20000 tries", t.same(0, 0, 20000), 1);
+        Check.due("unlike, 0 tries", t.same(0, 1, 0), 0);
+        Check.due("unlike, 20000 tries", t.same(0, 1, 20000), 0);
+        Check.due("no first, 0 tries", t.same(-1, 0, 0), GroupTowers.BAD);
+        Check.due("no second, 0 tries", t.same(0, -1, 0), GroupTowers.BAD);
+        Check.due("no second, 20000 tries", t.same(0, 2, 20000), GroupTowers.BAD);
+    }
+
+    /** "0 without a try": even of none that is left, where the orders, or those of elements, are unlike. */
+    private static void unlikeIsAheadOfSpent() {
+        GroupTowers t = new GroupTowers();
+        t.cyclic(4);
+        t.dihedral(2);
+        t.cyclic(48);
+        t.cyclic(47);
+        t.dihedral(24);
+        Check.due("4 and 2 with 2", t.same(0, 1, 0), 0);
+        Check.due("2 with 2 and 4", t.same(1, 0, 0), 0);
+        Check.due("48 and 47", t.same(2, 3, 0), 0);
+        Check.due("48 and dihedral 24", t.same(2, 4, 0), 0);
+        Check.due("dihedral 24 and itself", t.same(4, 4, 0), GroupTowers.SPENT);
     }
 
     private static void withoutTry() {
