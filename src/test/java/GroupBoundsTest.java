@@ -30,6 +30,7 @@ public final class GroupBoundsTest {
         whatOfAGroup();
         aboutTheLeastGroup();
         aboutTheGreatestGroups();
+        oneMakesAllWhateverItsName();
         madeCountsZero();
         askingChangesNothing();
         Check.end();
@@ -444,6 +445,25 @@ public final class GroupBoundsTest {
         Check.due("order", twos.order(4), 32);
         Check.due("five make all", twos.about(4, 5), 5);
         Check.due("each once more is 0", twos.about(4, 2), 2);
+    }
+
+    /** "the least number of ELEMENTS that make all": 12 has 1, 5, 7, 11, here named so that others stand between. */
+    private static void oneMakesAllWhateverItsName() {
+        int[] was = {0, 2, 3, 1, 4, 5, 6, 7, 8, 11, 10, 9};
+        int[] name = new int[12];
+        for (int x = 0; x < 12; x++) {
+            name[was[x]] = x;
+        }
+        GroupTowers t = new GroupTowers();
+        t.sheet(0, 0, 144);
+        for (int i = 0; i < 144; i++) {
+            t.lay(0, i, name[(was[i / 12] + was[i % 12]) % 12]);
+        }
+        Check.due("12 renamed", t.table(0, 0, 12), 0);
+        Check.due("one makes all", t.about(0, 5), 1);
+        t.cyclic(12);
+        Check.due("the first row of one", t.same(0, 1, 1), 1);
+        Check.due("the first row of the other", t.same(1, 0, 1), 1);
     }
 
     /** "(0 too)". */

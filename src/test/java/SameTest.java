@@ -14,6 +14,8 @@ public final class SameTest {
         leastMakers();
         renamed();
         spentOnManyMakers();
+        lastElements();
+        whereAGreaterGroupWent();
         Check.end();
     }
 
@@ -185,5 +187,43 @@ public final class SameTest {
         Check.due("4 makers, a try short", t.same(3, 3, rows - 1), GroupTowers.SPENT);
         Check.due("4 makers", t.same(3, 3, rows), 1);
         Check.due("5 makers need 32907 tries", t.same(4, 4, 20000), GroupTowers.SPENT);
+    }
+
+    /** 4 with 12 and 2 with quaternions with 3: of order 48, with as many elements of each order. */
+    private static void lastElements() {
+        GroupTowers t = new GroupTowers();
+        t.cyclic(4);
+        t.cyclic(12);
+        t.pair(0, 1);
+        t.quaternions();
+        t.cyclic(6);
+        t.pair(3, 4);
+        Check.due("order", t.order(5), 48);
+        Check.due("orders of elements alike", t.same(2, 5, 0), GroupTowers.SPENT);
+        // Made by 1 and 12, of orders 12 and 4: there are 24 and 12 such.
+        Check.due("a try short of all", t.same(2, 5, 287), GroupTowers.SPENT);
+        Check.due("all tries", t.same(2, 5, 288), 0);
+    }
+
+    /** Its elements are not among those that are given. */
+    private static void whereAGreaterGroupWent() {
+        GroupTowers t = new GroupTowers();
+        t.cyclic(4);
+        t.pair(0, 0);
+        t.cyclic(2);
+        t.quaternions();
+        t.cyclic(32);
+        t.drop();
+        t.dihedral(24);
+        t.drop();
+        t.pair(2, 3);
+        Check.due("all tries, and no more", t.same(1, 4, 144), 0);
+        for (int n = 17; n <= 48; n++) {
+            t.drop();
+            t.cyclic(n);
+            t.drop();
+            t.pair(2, 3);
+            Check.due("all tries, where " + n + " was", t.same(1, 4, 144), 0);
+        }
     }
 }
